@@ -12,8 +12,8 @@ public final class JobShop {
     private static final int MACHINES = 4;
     private static final int LONGEST_DURATION = 50;
     private static final int LATEST_DRAFT = 1000;
-    private static final int EARLY_END = -10;
-    private static final int BOTH_AT_ONCE = -30;
+    private static final int TOO_LATE = -10;
+    private static final int AT_ONCE = -30;
 
     private final Floor floor;
     private final Search search;
@@ -171,12 +171,12 @@ public final class JobShop {
     public int check() {
         for (int i = 0; i < floor.size; i++) {
             if (endsTooLate(i)) {
-                return EARLY_END - i;
+                return TOO_LATE - i;
             }
         }
         for (int i = 0; i < floor.size; i++) {
             if (meetsGreater(i)) {
-                return BOTH_AT_ONCE - i;
+                return AT_ONCE - i;
             }
         }
         int makespan = 0;
@@ -339,7 +339,7 @@ public final class JobShop {
         }
 
         int followers(int i) {
-            return isOperation(nextOf[i]) ? arcs[i] | 1 << nextOf[i] : arcs[i];
+            return nextOf[i] == NONE ? arcs[i] : arcs[i] | 1 << nextOf[i];
         }
 
         /** Whether there is a path from one operation to another one. */
@@ -463,32 +463,30 @@ public final class JobShop {
             return sum;
         }
 
-        /** Makes the arcs that a makespan below a number forces: how many, or NO_WAY with all arcs as they were. */
+        /**
+         * Makes the arcs that a makespan below a number forces: how many, or NO_WAY with all arcs as they were.
+         * Each round but the last one ties a pair more, so there are fewer rounds than pairs of operations.
+         */
         int force(int below) {
-            int had = tiedPairs();
             System.arraycopy(arcs, 0, kept, 0, size);
-            if (forceAll(below) && longest() < below) {
-                return tiedPairs() - had;
+            int had = tiedPairs();
+            int tied = NONE;
+            boolean open = true;
+            for (int round = 0; round < MOST_OPERATIONS * MOST_OPERATIONS && open && tied != tiedPairs(); round++) {
+                tied = tiedPairs();
+                for (int a = 0; a < size && open; a++) {
+                    open = forceFrom(a, below);
+                }
+            }
+            if (open && longest() < below) {
+                return tied - had;
             }
             System.arraycopy(kept, 0, arcs, 0, size);
             measure();
             return NO_WAY;
         }
 
-        /** False: some pair can go neither way. Each arc is one of a pair without any, so the rounds are few. */
-        private boolean forceAll(int below) {
-            int tied = NONE;
-            for (int round = 0; round < MOST_OPERATIONS * MOST_OPERATIONS && tied != tiedPairs(); round++) {
-                tied = tiedPairs();
-                for (int a = 0; a < size; a++) {
-                    if (!forceFrom(a, below)) {
-                        return false;
-                    }
-                }
-            }
-            return true;
-        }
-
+        /** Makes the arcs that are forced out of one operation: false, if some pair can go neither way. */
         private boolean forceFrom(int a, int below) {
             for (int b = 0; b < size; b++) {
                 if (isPair(a, b) && !isTied(a, b) && mustPrecede(a, b, below)) {
@@ -586,7 +584,9 @@ public final class JobShop {
         }
 
         private int earliest(int i) {
-            return Math.max(jobFree[floor.jobOf[i]], machineFree[floor.machineOf[i]]);
+            int byJob = jobFree[floor.jobOf[i]];
+            int byMachine = machineFree[floor.machineOf[i]];
+            return byJob >= byMachine ? byJob : byMachine;
         }
 
         private boolean isPassed(int i, int lastStart, int last) {
