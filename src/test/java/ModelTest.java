@@ -2,7 +2,7 @@ import java.util.ArrayList;
 import java.util.List;
 import java.util.Random;
 
-/** Long runs of chosen-at-random calls (always the same ones), each answer held against a model read off the document. */
+/** Long runs of calls chosen at random (always the same ones), each held against a model read off the document. */
 public final class ModelTest {
     private static final int[] ODD = {-1, 4, 12, 50, 51, 1000, 1001, Integer.MAX_VALUE, Integer.MIN_VALUE};
     private static final String[] CALLS = {"clear", "job", "operation", "before", "free", "arc", "told", "length",
