@@ -55,12 +55,18 @@ abstract class Boundaries {
         return shop(row(0, 3, 1, 2), row(1, 4, 0, 5));
     }
 
-    /** The crossing with an arc from 0 to 3, a draft, and a plan. */
-    static JobShop busy() {
+    /** The crossing with an arc from 0 to 3, a draft, and no plan. */
+    static JobShop open() {
         JobShop x = crossing();
         x.before(0, 3);
         x.draft(1, 7);
         x.draft(3, 1000);
+        return x;
+    }
+
+    /** The same with a plan. */
+    static JobShop busy() {
+        JobShop x = open();
         x.solve();
         return x;
     }

@@ -258,12 +258,9 @@ public final class DraftBoundariesTest extends Boundaries {
 
     private static void adoptWithoutThePlan() {
         due("adopt: nothing told", new JobShop().adopt(), NONE);
-        Supplier<JobShop> drafted = () -> {
-            JobShop x = busy();
-            x.free(0, 3);
-            return x;
-        };
-        leaves("adopt: no plan any more", drafted, JobShop::adopt, NONE);
+        leaves("adopt: no plan yet", Boundaries::open, JobShop::adopt, NONE);
+        Supplier<JobShop> ended = behind(Boundaries::busy, x -> x.before(2, 1));
+        leaves("adopt: no plan any more", ended, JobShop::adopt, NONE);
         JobShop y = new JobShop();
         y.solve();
         due("adopt: the plan of nothing", y.adopt(), 0);

@@ -99,7 +99,7 @@ public final class PlanBoundariesTest extends Boundaries {
         due("optima: not solved", y.optima(), NONE);
         y.solve();
         leaves("optima", Boundaries::busy, JobShop::optima, 1);
-        leaves("optima: none", Boundaries::crossing, JobShop::optima, NONE);
+        leaves("optima: none", Boundaries::open, JobShop::optima, NONE);
         due("optima: solved", y.optima(), 2);
         due("optima: asked again", y.optima(), 2);
         y.before(1, 0);
@@ -219,7 +219,7 @@ public final class PlanBoundariesTest extends Boundaries {
         leaves("at: bad", Boundaries::busy, x -> x.at(4, 0), BAD);
         leaves("at: good", Boundaries::busy, x -> x.at(1, 0), 2);
         leaves("at: none", Boundaries::busy, x -> x.at(3, MIN), NONE);
-        leaves("at: no plan", Boundaries::crossing, x -> x.at(0, 0), NONE);
+        leaves("at: no plan", Boundaries::open, x -> x.at(0, 0), NONE);
     }
 
     private static void atWithoutThePlan() {

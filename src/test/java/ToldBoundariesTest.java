@@ -144,6 +144,7 @@ public final class ToldBoundariesTest extends Boundaries {
             due("told: START of " + i, x.told(i, 6), starts[i]);
         }
         due("told: START of none such", x.told(4, 6), NONE);
+        leaves("told: START without the plan", Boundaries::open, y -> y.told(1, 6), NONE);
     }
 
     // Promise 9: length.
@@ -277,6 +278,7 @@ public final class ToldBoundariesTest extends Boundaries {
     private static void countOfLeast() {
         JobShop x = crossing();
         due("count: LEAST without the plan", x.count(5), NONE);
+        leaves("count: LEAST without the plan", Boundaries::open, y -> y.count(5), NONE);
         due("count: LEAST", x.solve(), x.count(5));
         x.before(1, 2);
         due("count: LEAST without it any more", x.count(5), NONE);
