@@ -59,7 +59,8 @@ public final class SelectBoundariesTest extends Boundaries {
         due("select: LENGTH 3 is not below 2", x.select(2), NO_WAY);
         JobShop y = longest();
         due("select: LENGTH 600 is not below 600", y.select(600), NO_WAY);
-        due("select: LENGTH 600 is below 601", y.select(601) >= 0 ? 1 : 0, 1);
+        due("select: LENGTH 600 is below 601, and all other pairs go along the path", y.select(601), 15);
+        due("select: no pair is left", y.count(3), 0);
         leaves("select: LENGTH", Boundaries::busy, z -> z.select(9), NO_WAY);
     }
 
