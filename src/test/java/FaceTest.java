@@ -44,6 +44,11 @@ public final class FaceTest {
         due("FULL", JobShop.FULL, -3);
         due("ROUND", JobShop.ROUND, -4);
         due("NO_WAY", JobShop.NO_WAY, -5);
+        for (Field f : JobShop.class.getFields()) {
+            int how = f.getModifiers();
+            due("type of " + f, f.getType(), int.class);
+            due("public static final " + f, how, Modifier.PUBLIC | Modifier.STATIC | Modifier.FINAL);
+        }
     }
 
     private static void methods() {
@@ -57,6 +62,8 @@ public final class FaceTest {
                 }
                 got.add(name.append(')').toString());
                 due("the answer of " + m.getName(), m.getReturnType(), int.class);
+                due("no more than public: " + m.getName(), m.getModifiers(), Modifier.PUBLIC);
+                due("told to be thrown by " + m.getName(), m.getExceptionTypes().length, 0);
             }
         }
         due("the public methods", got, want);
@@ -78,6 +85,7 @@ public final class FaceTest {
         Constructor<?>[] made = JobShop.class.getDeclaredConstructors();
         due("constructors", made.length, 1);
         due("constructor", made[0].getParameterCount(), 0);
+        due("public constructor", made[0].getModifiers(), Modifier.PUBLIC);
         Set<String> face = new TreeSet<>();
         for (String name : METHODS) {
             face.add(name.substring(0, name.indexOf('(')));
